@@ -19,8 +19,8 @@ final class Pair {
         if (wrong != 0) System.exit(1);
     }
 
-    boolean isUsedUp() {
-        return story.size() >= MOST_CALLS;
+    int callsLeft() {
+        return MOST_CALLS - story.size();
     }
 
     int ask(String call, int a, int b, int c) {

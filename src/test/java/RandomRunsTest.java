@@ -25,7 +25,8 @@ public final class RandomRunsTest {
         // Some runs are kept short of letters, so that their words come again and again.
         int style = random.nextInt(4);
         ask("begin", 1 + random.nextInt(style == 0 ? 2 : 5), 0, 0);
-        while (!pair.isUsedUp()) {
+        if (style >= 2) ask("drift", 20 * style - 10 + random.nextInt(11), 1 + random.nextInt(999999), 0);
+        while (pair.callsLeft() > 0) {
             if (random.nextInt(3) == 0) change(style);
             else if (random.nextInt(4) == 0) fillSheet();
             else question();
@@ -33,7 +34,7 @@ public final class RandomRunsTest {
     }
 
     private int ask(String call, int a, int b, int c) {
-        if (pair.isUsedUp()) return 0;
+        if (pair.callsLeft() == 0) return 0;
         int due = pair.ask(call, a, b, c);
         if (call.equals("begin") && due >= 0) kinds = a;
         return due;
