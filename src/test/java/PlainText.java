@@ -20,6 +20,14 @@ final class PlainText {
         int made;
         int of = NONE;
 
+        State copy() {
+            State other = new State();
+            other.words.addAll(words);
+            other.made = made;
+            other.of = of;
+            return other;
+        }
+
         String longest() {
             String found = words.first();
             for (String w : words) if (w.length() > found.length()) found = w;
@@ -43,6 +51,20 @@ final class PlainText {
 
     PlainText() {
         startWith(2, "");
+    }
+
+    /** Another one that is as this one is now. */
+    PlainText copy() {
+        PlainText other = new PlainText();
+        other.k = k;
+        other.text = text;
+        other.words = words;
+        other.states = new ArrayList<>();
+        for (State s : states) other.states.add(s.copy());
+        System.arraycopy(sheets, 0, other.sheets, 0, sheets.length);
+        System.arraycopy(keptKinds, 0, other.keptKinds, 0, keptKinds.length);
+        System.arraycopy(keptTexts, 0, other.keptTexts, 0, keptTexts.length);
+        return other;
     }
 
     private void startWith(int kinds, String row) {

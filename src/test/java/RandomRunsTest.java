@@ -113,7 +113,7 @@ public final class RandomRunsTest {
         int states = Math.max(1, ask("count", 2, 0, 0));
         letters = Math.max(0, ask("count", 1, 0, 0));
         for (int i = 0; i < 6; i++) {
-            String call = Pair.CALLS[5 + random.nextInt(Pair.CALLS.length - 7)];
+            String call = Calls.NAMES[5 + random.nextInt(Calls.NAMES.length - 7)];
             switch (call) {
                 case "letter": ask(call, odd(random.nextInt(letters + 2) - 1), 0, 0); break;
                 case "count": ask(call, upTo(11), 0, 0); break;
