@@ -18,6 +18,7 @@ public final class LanguageTest {
         "size(int)", "drop(int)", "walk(int)", "times(int,int)", "kth(int,int)", "rank(int)", "absent(int)",
         "missing(int)", "often(int,int)", "twice(int)", "unlike(int)", "single(int)", "gap(int)", "cover()",
         "part(int)", "common(int,int)", "border(int)", "next(int)", "worth(int)", "keep(int)", "goBack(int)"};
+    private static final Set<String> NAMES = Set.of(Calls.NAMES);
     private static final String[] CONSTANTS = {"BAD", "NOT", "FULL", "NONE", "NULL", "PLACE", "MUCH"};
     private static final String[] RULED_OUT = {
         "throw", "throws", "try", "catch", "finally", "synchronized", "assert", "import", "package", "double", "float",
@@ -43,7 +44,10 @@ public final class LanguageTest {
         check(face.getModifiers() == (Modifier.PUBLIC | Modifier.FINAL), "the class is not public and final");
         Set<String> found = new TreeSet<>();
         for (Method m : face.getDeclaredMethods()) {
-            if (Modifier.isPrivate(m.getModifiers())) continue;
+            if (Modifier.isPrivate(m.getModifiers())) {
+                check(!NAMES.contains(m.getName()), "a public method's name: " + m);
+                continue;
+            }
             check(m.getModifiers() == Modifier.PUBLIC, "not just public: " + m);
             check(m.getReturnType() == int.class, "answers no int: " + m);
             found.add(signature(m));
@@ -66,15 +70,13 @@ public final class LanguageTest {
     }
 
     private static void checkNestedClasses() {
-        Set<String> names = new TreeSet<>();
-        for (String call : FACE) names.add(call.substring(0, call.indexOf('(')));
         Class<?>[] nested = GrowingText.class.getDeclaredClasses();
         check(nested.length < 12, "there are too many classes");
         for (Class<?> c : nested) {
             check(Modifier.isStatic(c.getModifiers()), c + " is not static");
             check(c.getDeclaredFields().length <= 20, c + " has too many fields");
             for (Method m : c.getDeclaredMethods()) {
-                check(!names.contains(m.getName()), "a public method's name: " + m);
+                check(!NAMES.contains(m.getName()), "a public method's name: " + m);
                 check(m.getParameterCount() <= 7, "too many parameters: " + m);
             }
             for (Field f : c.getDeclaredFields()) {
